@@ -242,7 +242,7 @@ public final class FeltHouse {
         frame.asItIs();
         int set = 0;
         for (int p = 0; p < now.partCount; p++) {
-            frame.without = p;
+            frame.here = now.there & ~(1 << p);
             if (now.isThere(p) && frame.isStanding()) {
                 set |= 1 << p;
             }
@@ -293,7 +293,7 @@ public final class FeltHouse {
         int fuel = frame.fuel();
         int set = 0;
         for (int p = 0; p < now.partCount; p++) {
-            frame.without = p;
+            frame.here = now.there & ~(1 << p);
             if (now.isThere(p) && frame.fuel() == fuel) {
                 set |= 1 << p;
             }
@@ -713,7 +713,6 @@ public final class FeltHouse {
             }
             int c = campCount;
             fars[c] = far;
-            // The place may bear the grass of a camp that undo() took back.
             for (int month = 0; month < MONTHS; month++) {
                 grass[c * MONTHS + month] = 0;
             }
@@ -788,7 +787,8 @@ public final class FeltHouse {
         int wind;
         int from;
         int draw;
-        int without;
+        // The parts that are there, as a set.
+        int here;
         final int[] pushed = new int[SIDES];
         final int[] held = new int[SIDES];
 
@@ -801,11 +801,11 @@ public final class FeltHouse {
             wind = stock.sky[WIND];
             from = stock.sky[FROM];
             draw = stock.draw;
-            without = NOBODY;
+            here = stock.there;
         }
 
         boolean isHere(int p) {
-            return stock.isThere(p) && p != without;
+            return (here >> p & 1) == 1;
         }
 
         int good(int p) {
@@ -1319,18 +1319,14 @@ public final class FeltHouse {
                 }
             } else if (isDigit(tape[place])) {
                 token = NUMBER;
-                stepOverNumber();
+                value = 0;
+                while (place < size && isDigit(tape[place])) {
+                    // Held just above what a number may be, so that a long one can't wrap around.
+                    value = Math.min(value * 10 + tape[place] - '0', NUMBER_MOST + 1);
+                    place++;
+                }
             } else {
                 token = tape[place] == ',' ? COMMA : OTHER;
-                place++;
-            }
-        }
-
-        private void stepOverNumber() {
-            value = 0;
-            while (place < size && isDigit(tape[place])) {
-                // Held just above what a number may be, so that a long one can't wrap around.
-                value = Math.min(value * 10 + tape[place] - '0', NUMBER_MOST + 1);
                 place++;
             }
         }

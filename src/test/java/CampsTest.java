@@ -6,6 +6,8 @@ public final class CampsTest {
         herd();
         yearFindings();
         stays();
+        rowsByStays();
+        movesAlone();
         ties();
         roundTheYear();
         Check.end();
@@ -31,7 +33,8 @@ public final class CampsTest {
         x.camp(3);
         x.camp(4);
         Check.due("grass(0, 11, 999)", x.grass(0, 11, 999), 0);
-        Check.due("grass(0, 11, 0)", x.grass(0, 11, 5), 999);
+        Check.due("grass(0, 11, 0)", x.grass(0, 11, 0), 999);
+        Check.due("grass(0, 11, 5)", x.grass(0, 11, 5), 0);
         Check.due("grass(1, 0, 7)", x.grass(1, 0, 7), 0);
         Check.due("month -1", x.grass(0, -1, 0), Check.BEYOND);
         Check.due("month 12", x.grass(0, 12, 0), Check.BEYOND);
@@ -100,6 +103,41 @@ public final class CampsTest {
         x.camp(3);
         Check.due("two moves are dearer than the third month", x.year(0, 3, -1), 49 + 11 + 100 + 11 + 49);
         Check.due("there and back", x.moves(0, 3), 2);
+    }
+
+    private static FeltHouse twoCamps(int pack, int... grass) {
+        FeltHouse x = new FeltHouse();
+        x.herd(2, pack);
+        for (int c = 0; c < grass.length; c++) {
+            x.camp(7);
+            for (int month = 0; month < 12; month++) {
+                x.grass(c, month, grass[c]);
+            }
+        }
+        return x;
+    }
+
+    private static void rowsByStays() {
+        FeltHouse x = twoCamps(20, 100, 60);
+        int[] row = {0, 0, 1, 0};
+        Check.due("there and back behind two months", x.year(0, 4, -1), 130);
+        for (int i = 0; i < 4; i++) {
+            Check.due("camp " + i + " of four", x.year(0, 4, i), row[i]);
+        }
+        x = twoCamps(51, 100, 100);
+        int[] pairs = {0, 0, 1, 1, 0, 0};
+        Check.due("two months each", x.year(0, 6, -1), 252);
+        for (int i = 0; i < 6; i++) {
+            Check.due("camp " + i + " of six", x.year(0, 6, i), pairs[i]);
+        }
+    }
+
+    private static void movesAlone() {
+        Check.due("moves of two months each", twoCamps(51, 100, 100).moves(0, 6), 2);
+        Check.due("moves each month", twoCamps(49, 100, 100).moves(0, 6), 5);
+        FeltHouse x = twoCamps(51, 100, 100);
+        x.year(0, 24, -1);
+        Check.due("moves of fewer months than were asked before", x.moves(0, 4), 1);
     }
 
     private static void ties() {

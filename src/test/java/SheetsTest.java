@@ -77,6 +77,7 @@ public final class SheetsTest {
         row(x, 1, 16, 0, 0, 0);
         row(x, 2, 8, 0, 0, 0);
         Check.due("sheet -1", x.copy(-1, 0, 1, 0, 1), Check.BEYOND);
+        Check.due("sheet 4", x.copy(4, 0, 1, 0, 1), Check.BEYOND);
         Check.due("sheet 4 to", x.copy(0, 0, 4, 0, 1), Check.BEYOND);
         Check.due("a wrong sheet ahead of a missing one", x.copy(3, 0, 4, 0, 1), Check.BEYOND);
         Check.due("missing from", x.copy(3, 0, 1, 0, 1), Check.MISSING);
@@ -120,6 +121,8 @@ public final class SheetsTest {
         for (int month = 0; month < 12; month++) {
             x.grass(1, month, 77);
         }
+        Check.due("sheet 4 with camps", x.lays(4, 0), Check.BEYOND);
+        Check.due("sheet -1 with camps", x.lays(-1, 0), Check.BEYOND);
         Check.due("camp -1", x.lays(0, -1), Check.BEYOND);
         Check.due("camp 2", x.lays(0, 2), Check.BEYOND);
         Check.due("nine came", x.lays(0, 1), 9);

@@ -94,6 +94,15 @@ public final class StandingTest {
         Check.due("a band without good at 20", x.stands(), 1);
         x.draw(21);
         Check.due("a band without good at 21", x.stands(), 0);
+        x = new FeltHouse();
+        x.part(2, 0, 1, 0);
+        x.part(1, 0, 1, 0);
+        x.part(1, 1, 1, 0);
+        x.part(1, 7, 1, 0);
+        x.part(3, 0, 1, 9);
+        Check.due("with a band as part 0", x.stands(), 1);
+        x.draw(21);
+        Check.due("part 0 is overdrawn", x.stands(), 0);
     }
 
     private static void first() {
@@ -112,7 +121,9 @@ public final class StandingTest {
     }
 
     private static void gust() {
-        FeltHouse x = stoneHouse();
+        FeltHouse x = new FeltHouse();
+        Check.due("nothing falls in calm", x.gust(), 0);
+        x = stoneHouse();
         Check.due("side 4 has 19", x.side(4, 2), 19);
         Check.due("gust", x.gust(), 20);
         Check.due("wind is as it was", x.sky(0, 0), 0);
@@ -173,6 +184,12 @@ public final class StandingTest {
         x.set(12, 2, 150);
         Check.due("against a stronger pole", x.span(0), Check.NONE);
         Check.due("against a stronger pole, the greatest", x.span(1), Check.NONE);
+        x.set(11, 2, 158);
+        x.set(12, 2, 801);
+        Check.due("with 99 alone, the least", x.span(0), 99);
+        Check.due("with 99 alone, the greatest", x.span(1), 99);
+        x.set(12, 2, 802);
+        Check.due("not even with 99", x.span(0), Check.NONE);
     }
 
     private static void worst() {
@@ -201,13 +218,13 @@ public final class StandingTest {
         Check.due("20 too few", x.warmth(1), 2);
         x.sky(4, 60);
         Check.due("400 too few", x.warmth(1), 21);
-        x.sky(0, 14);
-        Check.due("in a wind", x.warmth(0), 100 + 99 - 2);
+        x.sky(0, 29);
+        Check.due("in a wind", x.warmth(0), 100 + 98 - 5);
         x.sky(3, 98);
-        Check.due("in snow", x.warmth(0), 197 - 32);
+        Check.due("in snow", x.warmth(0), 193 - 32);
         x.want(0, false);
         x.want(1, false);
-        Check.due("below 0", x.warmth(0), -34);
+        Check.due("below 0", x.warmth(0), -37);
         Check.due("its fuel", x.warmth(1), 32);
         Check.due("what -1", x.warmth(-1), Check.BEYOND);
         Check.due("what 2", x.warmth(2), Check.BEYOND);

@@ -56,6 +56,12 @@ public final class TextTest {
         Check.due("wipe()", x.wipe(), 6);
         Check.due("wipe() again", x.wipe(), 0);
         Check.due("an empty tape", x.house(), -1);
+        x.draw(20);
+        Check.due("drawn is no word", Check.told(x, "drawn"), -1);
+        Check.due("nothing of it stays behind draw", Check.told(x, "draw"), -5);
+        Check.due("draw 12", Check.told(x, "draw 12"), 1);
+        Check.due("draw 1", Check.told(x, "draw 1"), 1);
+        Check.due("nothing of 12 stays behind 1", x.draw(20), 1);
         Check.due("nothing is drawn", x.count(6), 20);
     }
 
@@ -110,6 +116,9 @@ public final class TextTest {
         told("draw 0007", 1);
         told("draw 00000000000000000000000000000000000000000000000000000000000000000007", 1);
         told("drawn 9", -1);
+        told("drawz 9", -1);
+        told("xraw 9", -1);
+        told("hole 1 1", -1);
         told("dra w 9", -1);
         told("Draw 9", -1);
         told("draw\t9", -5);
@@ -166,6 +175,7 @@ public final class TextTest {
         told("pole 1 0", -8);
         told("pole 1 999", 1);
         told("pole 1 1000", -8);
+        told("pole 0 1 weight 0 wear 0", 1);
         told("pole 1 1 weight 99", 1);
         told("pole 1 1 weight 100", -17);
         told("pole 1 1 wear 99", 1);
