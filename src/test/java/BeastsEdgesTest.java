@@ -105,6 +105,8 @@ public final class BeastsEdgesTest {
             Edge.within(parts + " of weight 1 on ones", x.beasts((1 << parts) - 1), parts);
         }
         Edge.past("7 of weight 1 on six ones", alike(10, 1, 1, 1, 1, 1, 1, 1).beasts(0x7f), Check.NONE);
+        Edge.past("10 of weight 1 on six ones", alike(10, 1, 1, 1, 1, 1, 1, 1).beasts(0x3ff), Check.NONE);
+        Edge.within("10 of weight 1 on five and five", alike(10, 1, 5, 5).beasts(0x3ff), 2);
         Edge.within("nothing with no beast", new FeltHouse().beasts(0), 0);
         Edge.within("nothing with six", alike(1, 1, 9, 9, 9, 9, 9, 9).beasts(0), 0);
         Edge.past("a weightless part with no beast", alike(1, 0).beasts(1), Check.NONE);

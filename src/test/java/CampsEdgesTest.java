@@ -13,6 +13,7 @@ public final class CampsEdgesTest {
         roundTheYear();
         lengthOfAYear();
         noMoveAhead();
+        sixCampsForTheLongest();
         bestYear();
         severalBest();
         yearFindings();
@@ -251,6 +252,33 @@ public final class CampsEdgesTest {
         Edge.within("its cost", x.year(0, 1, -1), 99);
         Edge.within("told by a sheet", costOf(x, 0, 5), 99);
         Edge.past("a second one elsewhere is moved to", costOf(x, 0, 5, 0), 99 + 198 + 999 + 100);
+    }
+
+    /** Of six camps each has what the herd eats in every sixth month, so the row goes round them. */
+    private static void sixCampsForTheLongest() {
+        Edge.says("Terms", "A YEAR: from a MONTH on, n MONTHS (1 to 24; MONTHS go round), each at a CAMP");
+        FeltHouse x = camps(0, 0, 0, 0, 0, 0);
+        for (int month = 0; month < 12; month++) {
+            x.grass(month % 6, month, 100);
+        }
+        x.herd(2, 0);
+        Edge.within("24 months", x.year(7, 24, -1), 0);
+        for (int i = 0; i < 24; i++) {
+            Edge.within("camp in month " + i + " of 24", x.year(7, 24, i), (7 + i) % 6);
+        }
+        Edge.within("its moves", x.moves(7, 24), 23);
+        Edge.past("a 25th month", x.year(7, 25, -1), Check.BEYOND);
+        x.herd(2, 1);
+        Edge.past("with a pack of 1 each move costs", x.year(7, 24, -1), 23);
+        FeltHouse bare = camps(0, 0, 0, 0, 0, 0);
+        Edge.within("six alike, the cost of 24", bare.year(0, 24, -1), 2400);
+        Edge.within("six alike: no moves", bare.moves(0, 24), 0);
+        Edge.within("six alike: it ends at the first", bare.year(0, 24, 23), 0);
+        Edge.says("Promise 27", "what -1 its cost, i the CAMP in its i-th MONTH");
+        Edge.past("-1", x.year(4, 2, -1), 1);
+        Edge.within("0", x.year(4, 2, 0), 4);
+        Edge.within("1", x.year(4, 2, 1), 5);
+        Edge.past("2", x.year(4, 2, 2), Check.BEYOND);
     }
 
     /** Two camps; the second has 100 in month 1: a move to it costs PACK, a stay ahead at it a half. */

@@ -74,6 +74,7 @@ public final class ImagesEdgesTest {
         FeltHouse x = new FeltHouse();
         for (int p = 0; p < 20; p++) {
             x.part(p % 7, p % 8, 100 + p, 50 + p);
+            x.set(p, 4, 20 + p);
         }
         for (int c = 0; c < 6; c++) {
             x.beast(200 + c);
@@ -87,6 +88,7 @@ public final class ImagesEdgesTest {
         for (int p = 0; p < 20; p++) {
             x.set(p, 2, 1);
             x.set(p, 3, 1);
+            x.set(p, 4, 1);
             x.want(p, false);
         }
         for (int c = 0; c < 6; c++) {
@@ -100,6 +102,7 @@ public final class ImagesEdgesTest {
         for (int p = 0; p < 20; p++) {
             Edge.within("strength of " + p, x.of(p, 2), 100 + p);
             Edge.within("weight of " + p, x.of(p, 3), 50 + p);
+            Edge.within("wear of " + p, x.of(p, 4), 20 + p);
         }
         for (int c = 0; c < 6; c++) {
             Edge.within("cap of " + c, x.cap(c), 200 + c);

@@ -21,6 +21,7 @@ public final class PartsEdgesTest {
         pushes();
         holds();
         warms();
+        quotients();
         kindsUnderOthers();
         set();
         want();
@@ -311,6 +312,27 @@ public final class PartsEdgesTest {
         Edge.past("wanting", x.of(0, WARMS), 0);
     }
 
+    /** Every quotient of section 1 on a part, one below a step and at it; the house's have their own tests. */
+    private static void quotients() {
+        Edge.says("Terms", "Quotients are cut");
+        Edge.within("good: 199 hundredths", goodOf(199, 99), 1);
+        Edge.past("good: 200 hundredths", goodOf(200, 99), 2);
+        Edge.within("snow: 7 fourths", underSky(POLE, 1, 3, 7).of(0, PUSHES), 2);
+        Edge.past("snow: 8 fourths", underSky(POLE, 1, 3, 8).of(0, PUSHES), 3);
+        Edge.within("draw: 39 twentieths", heldBy(BAND, 3, 13, 0), 1);
+        Edge.past("draw: 40 twentieths", heldBy(BAND, 4, 10, 0), 2);
+        Edge.within("wet: 19 tenths less", heldBy(ROPE, 19, 20, 1), 18);
+        Edge.past("wet: 20 tenths less", heldBy(ROPE, 20, 20, 1), 18);
+        Edge.within("felt: 19 tenths", heldBy(FELT, 19, 20, 0), 1);
+        Edge.past("felt: 20 tenths", heldBy(FELT, 20, 20, 0), 2);
+        Edge.within("felt: 9 fifths", warmedBy(FELT, 9, 0, 0), 1);
+        Edge.past("felt: 10 fifths", warmedBy(FELT, 10, 0, 0), 2);
+        Edge.within("felt: 3 halves", warmedBy(FELT, 15, 5, 0), 1);
+        Edge.past("felt: 4 halves", warmedBy(FELT, 20, 5, 0), 2);
+        Edge.within("flap: 19 tenths of wind less", warmedBy(FLAP, 50, 0, 19), 9);
+        Edge.past("flap: 20 tenths of wind less", warmedBy(FLAP, 50, 0, 20), 8);
+    }
+
     private static void kindsUnderOthers() {
         Edge.says("Terms", "(A KIND that isn't named does as the one that it is under.)");
         FeltHouse x = new FeltHouse();
@@ -363,6 +385,16 @@ public final class PartsEdgesTest {
         Edge.within("there", x.want(0, true), 1);
         Edge.past("there once more", x.want(0, true), 0);
 
+        Edge.says("Promise 5", "A PART is there, or WANTING");
+        x = one(0, 0, 5, 6);
+        x.set(0, 4, 7);
+        x.want(0, false);
+        Edge.past("wanting", x.of(0, 5), 0);
+        Edge.past("its weight stays", x.of(0, 3), 6);
+        Edge.past("its wear stays", x.of(0, 4), 7);
+        x.want(0, true);
+        Edge.within("there", x.of(0, 5), 1);
+
         Edge.says("Promise 5", "BEYOND");
         for (boolean is : new boolean[] {false, true}) {
             FeltHouse y = new FeltHouse();
@@ -400,6 +432,14 @@ public final class PartsEdgesTest {
         }
         Edge.past("a felt isn't a flap, which is under it", one(FELT, 0, 1, 0).as(0, FLAP), Check.KIND);
         Edge.past("a band isn't a rope, which is under it", one(BAND, 0, 1, 0).as(0, ROPE), Check.KIND);
+
+        Edge.says("Promise 6", "A PART as one of a kind: its GOOD");
+        FeltHouse z = one(ROPE, 0, 200, 0);
+        z.set(0, 4, 99);
+        Edge.within("worn", z.as(0, BAND), 2);
+        z.want(0, false);
+        Edge.past("wanting", z.as(0, BAND), 0);
+        Edge.past("wanting, another kind", z.as(0, FELT), Check.KIND);
     }
 
     private static void skyAtFirst() {

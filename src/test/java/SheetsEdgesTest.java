@@ -18,10 +18,12 @@ public final class SheetsEdgesTest {
         copyAsTheyWere();
         laysFindings();
         laysNumbers();
+        laysOfEachCamp();
         costsFindings();
         costsNumbers();
         readFindings();
         readNumbers();
+        readAsTheSkyIs();
         Edge.end();
     }
 
@@ -320,6 +322,26 @@ public final class SheetsEdgesTest {
         Edge.within("far is as it was", x.campOf(0, 12), 0);
     }
 
+    private static void laysOfEachCamp() {
+        Edge.says("Promise 35", "Numbers of a sheet are GRASS of a CAMP in MONTHS 0, 1, ..");
+        for (int camp = 0; camp < 6; camp++) {
+            FeltHouse x = new FeltHouse();
+            for (int c = 0; c < 6; c++) {
+                x.camp(c);
+            }
+            x.sheet(0, 16, 12);
+            for (int i = 0; i < 12; i++) {
+                x.write(0, i, 100 + i);
+            }
+            Edge.within("camp " + camp, x.lays(0, camp), 12);
+            for (int month = 0; month < 12; month++) {
+                Edge.within("camp " + camp + ", month " + month, x.campOf(camp, month), 100 + month);
+                Edge.past("the next camp, month " + month, x.campOf((camp + 1) % 6, month), 0);
+                Edge.past("the camp ahead, month " + month, x.campOf((camp + 5) % 6, month), 0);
+            }
+        }
+    }
+
     private static void costsFindings() {
         Edge.says("Promise 36", "BEYOND: no such sheet");
         FeltHouse x = new FeltHouse();
@@ -426,6 +448,27 @@ public final class SheetsEdgesTest {
         Edge.past("right in its lowest bits alone", x.read(0), 1);
         Edge.past("a row of 40 noughts", zeros(40).read(0), 9);
         Edge.within("a row of 8 noughts", zeros(8).read(0), 0);
+    }
+
+    private static void readAsTheSkyIs() {
+        Edge.says("Promise 37", "numbers of a sheet are SPARES of SIDES 0, 1, ..");
+        FeltHouse x = new FeltHouse();
+        x.sky(0, 99);
+        x.sky(1, 7);
+        // Across from 7 is 3.
+        row(x, 0, 8, -24, -24, -24, -99, -24, -24, -24, -49);
+        Edge.within("wind from 7", x.read(0), 0);
+        x.sky(1, 0);
+        Edge.past("wind from 0", x.read(0), 1);
+        // A spare of -129 and below has no room in 8 bits, and is never right there.
+        x.part(1, 4, 29, 0);
+        row(x, 0, 8, -49, -24, -24, -24, -128);
+        Edge.within("a spare of -128", x.read(0), 0);
+        x.set(0, 2, 30);
+        x.write(0, 4, -129);
+        Edge.past("a spare of -129 in 8 bits", x.read(0), 5);
+        row(x, 0, 16, -49, -24, -24, -24, -129);
+        Edge.within("a spare of -129 in 16 bits", x.read(0), 0);
     }
 
     private static FeltHouse zeros(int n) {

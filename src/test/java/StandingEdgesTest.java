@@ -11,6 +11,7 @@ public final class StandingEdgesTest {
     public static void main(String[] args) {
         across();
         strain();
+        holdOfItsOwn();
         beside();
         side();
         noSpareBelowNought();
@@ -88,6 +89,22 @@ public final class StandingEdgesTest {
         x.want(15, false);
         Edge.past("side 7 without its last", x.side(7, 0), 128);
         Edge.past("side 6 as it was", x.side(6, 0), 364);
+    }
+
+    private static void holdOfItsOwn() {
+        Edge.says("Terms", "HOLD of a SIDE: all HOLDS of PARTS of it");
+        FeltHouse x = new FeltHouse();
+        x.part(STONE, 5, 1, 1);
+        Edge.within("one, whole", x.side(5, 1), 1);
+        x.part(FELT, 5, 20, 0);
+        x.part(ROPE, 5, 4, 0);
+        x.part(BAND, 5, 8, 0);
+        x.part(FLAP, 5, 160, 0);
+        Edge.within("five of them", x.side(5, 1), 1 + 2 + 4 + 8 + 16);
+        x.want(4, false);
+        Edge.past("without the last", x.side(5, 1), 15);
+        x.want(0, false);
+        Edge.past("without the first", x.side(5, 1), 14);
     }
 
     private static void beside() {
@@ -185,6 +202,16 @@ public final class StandingEdgesTest {
         Edge.within("the third has good 1", x.stands(), 1);
         x.want(10, false);
         Edge.past("the third is wanting", x.stands(), 0);
+        x = new FeltHouse();
+        for (int side = 3; side <= 5; side++) {
+            x.part(POLE, side, 1, 0);
+        }
+        for (int side = 0; side < 8; side++) {
+            x.part(STONE, side, 1, 50);
+        }
+        Edge.within("the poles are parts 0 to 2", x.stands(), 1);
+        x.want(0, false);
+        Edge.past("part 0 is wanting", x.stands(), 0);
         for (int kind = 0; kind <= 6; kind++) {
             FeltHouse y = withPolesOn(0, 1);
             y.part(kind, 2, 10, 0);
@@ -236,12 +263,26 @@ public final class StandingEdgesTest {
             x.want(p, true);
             x.set(p, 2, 158);
         }
+        bandAsTheFirstPart();
         x.set(16, 4, 99);
         x.set(16, 2, 1);
         x.draw(20);
         Edge.within("one that is there with good 0, at 20", x.stands(), 1);
         x.draw(21);
         Edge.past("one that is there with good 0, at 21", x.stands(), 0);
+    }
+
+    private static void bandAsTheFirstPart() {
+        FeltHouse x = new FeltHouse();
+        x.part(BAND, 0, 2, 0);
+        for (int side = 0; side < 8; side++) {
+            x.part(POLE, side, 1, 0);
+            x.part(STONE, side, 1, 50);
+        }
+        x.draw(21);
+        Edge.within("part 0 at 21", x.stands(), 1);
+        x.draw(22);
+        Edge.past("part 0 at 22", x.stands(), 0);
     }
 
     private static void first() {
@@ -287,6 +328,11 @@ public final class StandingEdgesTest {
         x.sky(0, 99);
         Edge.within("the wind as it is isn't asked", x.gust(), 99);
         Edge.within("nor changed", x.sky(0, 0), 99);
+
+        Edge.says("Promise 13", "GUST");
+        Edge.within("99 is told", x.gust(), 99);
+        x.set(4, 2, 1);
+        Edge.past("100 isn't, though it wouldn't stand with it", x.gust(), Check.NONE);
 
         Edge.says("Promise 13", "NONE: it STANDS with all");
         x = house();
@@ -375,6 +421,10 @@ public final class StandingEdgesTest {
         Edge.past("lacking 30", banded(130, 20).span(0), 30);
         Edge.within("lacking 783", banded(883, 158).span(0), Check.NONE);
         Edge.past("lacking 782", banded(882, 158).span(1), 99);
+        // A band of 160 may be drawn by 100, and would hold 800 then; but 99 is the most.
+        Edge.within("lacking 793 of 792 at 99, the least", banded(893, 160).span(0), Check.NONE);
+        Edge.within("lacking 793 of 792 at 99, the greatest", banded(893, 160).span(1), Check.NONE);
+        Edge.past("lacking 792 of 792 at 99", banded(892, 160).span(0), 99);
         Edge.within("nothing", new FeltHouse().span(1), Check.NONE);
     }
 

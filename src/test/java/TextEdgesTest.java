@@ -453,12 +453,37 @@ public final class TextEdgesTest {
         Edge.within("place 120", told(" ".repeat(120)), -121);
         Edge.past("no fault", told("draw 1"), 1);
 
+        lastOnesTold();
         Edge.says("Promise 31", "ITEMS come to what there is");
         x = withParts(2);
         Check.told(x, "pole 3 4,camp 9,beast 8");
         Edge.within("behind what there was", x.of(2, 1), 3);
         Edge.within("what there was", x.of(1, 2), 1);
         Edge.past("no more", x.of(3, 0), Check.BEYOND);
+    }
+
+    private static void lastOnesTold() {
+        Edge.says("Promise 31", "whose ITEMS come to what there is");
+        FeltHouse x = withParts(19);
+        Check.told(x, "rope 7 99 weight 88 wear 77");
+        long[] due = {6, 7, 99, 88, 77, 1};
+        for (int what = 0; what < 6; what++) {
+            Edge.within("the 20th part, what " + what, x.of(19, what), due[what]);
+            Edge.past("the 19th part, what " + what, x.of(18, what), what == 2 || what == 5 ? 1 : 0);
+        }
+        x = withCampsAndBeasts(4);
+        Check.told(x, "camp 98 grass 1 2 3 4 5 6 7 8 9 10 11 12,camp 99 grass 21 22 23 24 25 26 27 28 29 30 31 32,beast 7,beast 8");
+        for (int month = 0; month < 12; month++) {
+            Edge.past("the 4th camp, month " + month, x.campOf(3, month), 0);
+            Edge.within("the 5th camp, month " + month, x.campOf(4, month), 1 + month);
+            Edge.within("the 6th camp, month " + month, x.campOf(5, month), 21 + month);
+        }
+        Edge.past("far of the 4th", x.campOf(3, 12), 0);
+        Edge.within("far of the 5th", x.campOf(4, 12), 98);
+        Edge.within("far of the 6th", x.campOf(5, 12), 99);
+        Edge.past("cap of the 4th", x.cap(3), 1);
+        Edge.within("cap of the 5th", x.cap(4), 7);
+        Edge.within("cap of the 6th", x.cap(5), 8);
     }
 
     private static void made(FeltHouse x, String text) {
